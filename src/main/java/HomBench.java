@@ -1077,7 +1077,7 @@ public final class HomBench {
         // For each source the images that are allowed from the start.
         private final int[] allowed = new int[MAX_VERTICES];
         // For each depth of the search the images that remain for each source.
-        private final int[][] domains = new int[MAX_VERTICES + 2][MAX_VERTICES];
+        private final int[][] domains = new int[MAX_VERTICES + 1][MAX_VERTICES];
 
         private void load(Graph from, int fromPart, Graph to, int toPart) {
             sources = fromPart;
@@ -1091,17 +1091,12 @@ public final class HomBench {
 
         boolean maps(Graph from, Graph to) {
             load(from, from.all(), to, to.all());
-            return exists();
-        }
-
-        private boolean exists() {
-            System.arraycopy(allowed, 0, domains[0], 0, MAX_VERTICES);
-            return extendable(this, 0);
+            return extendable(this, allowed, 0);
         }
 
         int firstImage(Graph from, Graph to, int vertex) {
             load(from, from.all(), to, to.all());
-            if (!exists()) {
+            if (!extendable(this, allowed, 0)) {
                 return NONE;
             }
             int found = NONE;
@@ -1117,7 +1112,7 @@ public final class HomBench {
             for (int target = 0; target < MAX_VERTICES; target++) {
                 if (has(choices, target)) {
                     allowed[vertex] = 1 << target;
-                    if (exists()) {
+                    if (extendable(this, allowed, 0)) {
                         return target;
                     }
                 }
@@ -1133,18 +1128,21 @@ public final class HomBench {
             int kept = g.all();
             for (int v = 0; v < g.size; v++) {
                 load(g, kept, g, kept & ~(1 << v));
-                if (has(kept, v) && exists()) {
+                if (has(kept, v) && extendable(this, allowed, 0)) {
                     kept &= ~(1 << v);
                 }
             }
             return kept;
         }
 
-        private static boolean extendable(HomSearch s, int depth) {
-            if (depth + 1 >= s.domains.length) {
+        /** Whether there is a homomorphism with an image from the given ones for each source. */
+        private static boolean extendable(HomSearch s, int[] given, int depth) {
+            // Each depth has one more source with a single image, so there is always a row for it.
+            if (depth >= s.domains.length) {
                 return false;
             }
             int[] domain = s.domains[depth];
+            System.arraycopy(given, 0, domain, 0, MAX_VERTICES);
             if (!s.narrow(domain)) {
                 return false;
             }
@@ -1152,14 +1150,15 @@ public final class HomBench {
             if (vertex == NONE) {
                 return true;
             }
+            int choices = domain[vertex];
             int failed = 0;
             for (int target = 0; target < MAX_VERTICES; target++) {
-                if (has(domain[vertex], target) && !s.likeOneOf(domain, target, failed)) {
-                    System.arraycopy(domain, 0, s.domains[depth + 1], 0, MAX_VERTICES);
-                    s.domains[depth + 1][vertex] = 1 << target;
-                    if (extendable(s, depth + 1)) {
+                if (has(choices, target) && !s.likeOneOf(domain, target, failed)) {
+                    domain[vertex] = 1 << target;
+                    if (extendable(s, domain, depth + 1)) {
                         return true;
                     }
+                    domain[vertex] = choices;
                     failed |= 1 << target;
                 }
             }
@@ -1204,7 +1203,7 @@ public final class HomBench {
         /** The source with the fewest images, but more than one; of several that with the most neighbors. */
         private int openSource(int[] domain) {
             int best = NONE;
-            int lowest = Integer.MAX_VALUE;
+            int lowest = (MAX_VERTICES + 1) * (MAX_VERTICES + 1);
             for (int v = 0; v < MAX_VERTICES; v++) {
                 int images = Integer.bitCount(domain[v]);
                 int rank = (MAX_VERTICES + 1) * images - Integer.bitCount(fromNear[v]);
@@ -1380,7 +1379,8 @@ public final class HomBench {
 
     /** The text, and its reading as a graph. */
     private static final class Text {
-        private static final int WRONG = Integer.MIN_VALUE;
+        // Neither a digit nor a weight.
+        private static final int WRONG = -100;
 
         final byte[] bytes = new byte[MAX_TEXT];
         int length;
