@@ -45,14 +45,14 @@ final class GraphTest {
         Check.due("setSize", 8, x.setSize(2, 0));
         Check.due("no vertices", "0", Check.text(x, 2));
         x.make(2, 2, 2);
-        String before = Check.state(x);
+        long before = x.digest();
         Check.noIndex("graph", () -> x.setSize(4, 1));
         Check.noIndex("graph", () -> x.setSize(-1, 1));
         Check.noIndex("graph comes first", () -> x.setSize(MIN, 9));
         Check.noArgument("size", () -> x.setSize(2, 9));
         Check.noArgument("size", () -> x.setSize(2, -1));
         Check.noArgument("size", () -> x.setSize(2, MAX));
-        Check.due("nothing changed", before, Check.state(x));
+        Check.due("nothing changed", before, x.digest());
         x.setSize(2, 1);
         x.undo();
         Check.due("undoable", "2;01", Check.text(x, 2));
@@ -66,14 +66,14 @@ final class GraphTest {
         Check.due("setVertex", 3, x.setVertex(1, 2, 0));
         Check.due("setVertex", 1, x.setVertex(1, 0, 1));
         Check.due("the graph", "3;v2=0;01;12", Check.text(x, 1));
-        String before = Check.state(x);
+        long before = x.digest();
         Check.noIndex("graph", () -> x.setVertex(4, 0, 0));
         Check.noIndex("vertex", () -> x.setVertex(1, 3, 0));
         Check.noIndex("vertex", () -> x.setVertex(1, -1, 0));
         Check.noIndex("vertex comes first", () -> x.setVertex(0, 0, 9));
         Check.noArgument("weight", () -> x.setVertex(1, 0, 4));
         Check.noArgument("weight", () -> x.setVertex(1, 0, -4));
-        Check.due("nothing changed", before, Check.state(x));
+        Check.due("nothing changed", before, x.digest());
         Check.due("saved even without a change", 3, x.undo());
         Check.due("the same graph", "3;v2=0;01;12", Check.text(x, 1));
         x.undo();
@@ -94,7 +94,7 @@ final class GraphTest {
         Check.due("no neighbors", 0, x.vertex(3, 2, 2));
         Check.due("a loop goes", -1, x.setEdge(3, 1, 1, 0));
         Check.due("no neighbors", 0, x.vertex(3, 1, 2));
-        String before = Check.state(x);
+        long before = x.digest();
         Check.noIndex("graph", () -> x.setEdge(-1, 0, 0, 0));
         Check.noIndex("u", () -> x.setEdge(3, 3, 0, 0));
         Check.noIndex("v", () -> x.setEdge(3, 0, 3, 0));
@@ -102,7 +102,7 @@ final class GraphTest {
         Check.noIndex("v comes first", () -> x.setEdge(3, 0, MIN, 3));
         Check.noArgument("weight", () -> x.setEdge(3, 0, 0, 3));
         Check.noArgument("weight", () -> x.setEdge(3, 0, 1, -3));
-        Check.due("nothing changed", before, Check.state(x));
+        Check.due("nothing changed", before, x.digest());
         x.undo();
         Check.due("undoable", "3;11=-1", Check.text(x, 3));
     }
@@ -128,13 +128,13 @@ final class GraphTest {
         for (int family = 0; family <= 4; family++) {
             Check.due("make with 8", most[family], x.make(1, family, 8));
         }
-        String before = Check.state(x);
+        long before = x.digest();
         Check.noIndex("graph", () -> x.make(4, 5, 9));
         Check.noArgument("family", () -> x.make(0, 5, 0));
         Check.noArgument("family", () -> x.make(0, -1, 0));
         Check.noArgument("size", () -> x.make(0, 0, 9));
         Check.noArgument("size", () -> x.make(0, 0, -1));
-        Check.due("nothing changed", before, Check.state(x));
+        Check.due("nothing changed", before, x.digest());
         x.undo();
         Check.due("undoable", 7, x.graph(1, 1));
     }
@@ -158,7 +158,7 @@ final class GraphTest {
         Check.due("random", 0, x.random(0, 8, 999999, 0));
         Check.due("random", 28, x.random(0, 8, 999999, 100));
         Check.due("random", 0, x.random(0, 0, 0, 100));
-        String before = Check.state(x);
+        long before = x.digest();
         Check.noIndex("graph", () -> x.random(4, 9, -1, -1));
         Check.noArgument("size", () -> x.random(0, 9, 0, 0));
         Check.noArgument("size", () -> x.random(0, -1, 0, 0));
@@ -166,7 +166,7 @@ final class GraphTest {
         Check.noArgument("seed", () -> x.random(0, 1, -1, 0));
         Check.noArgument("percent", () -> x.random(0, 1, 0, 101));
         Check.noArgument("percent", () -> x.random(0, 1, 0, -1));
-        Check.due("nothing changed", before, Check.state(x));
+        Check.due("nothing changed", before, x.digest());
         x.undo();
         Check.due("undoable", 28, x.graph(0, 1));
     }
@@ -228,7 +228,7 @@ final class GraphTest {
         HomBench x = new HomBench();
         x.setSize(0, 3);
         x.setSize(1, 6);
-        String before = Check.state(x);
+        long before = x.digest();
         Check.noIndex("graph", () -> x.combine(4, 0, 0, 3));
         Check.noIndex("x", () -> x.combine(0, -1, 0, 3));
         Check.noIndex("y", () -> x.combine(0, 0, 4, 3));
@@ -237,7 +237,7 @@ final class GraphTest {
         Check.noState("a union of nine", () -> x.combine(2, 0, 1, 0));
         Check.noState("a product of nine", () -> x.combine(2, 0, 0, 1));
         Check.noState("a product of nine", () -> x.combine(2, 0, 0, 2));
-        Check.due("nothing changed", before, Check.state(x));
+        Check.due("nothing changed", before, x.digest());
     }
 
     private static void derive() {
@@ -267,7 +267,7 @@ final class GraphTest {
         HomBench x = new HomBench();
         x.make(0, 0, 3);
         x.make(1, 2, 8);
-        String before = Check.state(x);
+        long before = x.digest();
         Check.noIndex("graph", () -> x.derive(4, 0, 4, 0));
         Check.noIndex("x", () -> x.derive(0, 4, 4, 0));
         Check.noArgument("kind", () -> x.derive(0, 0, 4, 0));
@@ -282,7 +282,7 @@ final class GraphTest {
         }
         Check.noArgument("vertex 3", () -> x.derive(1, 0, 2, 8));
         Check.noArgument("vertex 8", () -> x.derive(0, 1, 2, 256));
-        Check.due("nothing changed", before, Check.state(x));
+        Check.due("nothing changed", before, x.digest());
     }
 
     private static void graph() {

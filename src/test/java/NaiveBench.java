@@ -214,10 +214,12 @@ final class NaiveBench {
         state(size <= 8);
         Net made = Net.empty(size);
         for (int u = 0; u < size; u++) {
-            made.weights[u] = kind == 0 ? unionWeight(a, b, u) : cut(a.weights[u / b.size()] * b.weights[u % b.size()], 3);
+            made.weights[u] = kind == 0 ? unionWeight(a, b, u)
+                    : cut(a.weights[u / b.size()] * b.weights[u % b.size()], 3);
             for (int v = 0; v < size; v++) {
                 made.edges[u][v] = kind == 0 ? unionEdge(a, b, u, v)
-                        : cut(looped(a, u / b.size(), v / b.size(), kind) * looped(b, u % b.size(), v % b.size(), kind), 2);
+                        : cut(looped(a, u / b.size(), v / b.size(), kind)
+                                * looped(b, u % b.size(), v % b.size(), kind), 2);
             }
         }
         put(graph, made);
@@ -817,6 +819,10 @@ final class NaiveBench {
         argument(index >= 0);
         String text = net.text();
         return index < text.length() ? text.charAt(index) : -1;
+    }
+
+    String text(int graph) {
+        return net(graph).text();
     }
 
     // ---- state

@@ -2,12 +2,18 @@ import java.util.Random;
 
 /** Runs of calls with drawn arguments, some of them wrong, on the class and on NaiveBench side by side. */
 final class RandomRunsTest {
+    // What later calls on an object answer is free.
+    private static final int LIFE = 512;
+    // clearText, the bytes of a drawn text, parse, and the digest at the end.
+    private static final int LONGEST_STEP = 60;
+
     private final Random draw;
     private final HomBench bench = new HomBench();
     private final NaiveBench naive = new NaiveBench();
     private final String run;
     // The naive lists of maps take long on the greatest graphs, so most runs keep to smaller ones.
     private final int usualSize;
+    private int made = 0;
 
     private RandomRunsTest(int seed) {
         draw = new Random(seed);
@@ -24,13 +30,14 @@ final class RandomRunsTest {
     }
 
     private void calls() {
-        for (int call = 0; call < 200; call++) {
+        for (int call = 0; call < 200 && made < LIFE - LONGEST_STEP; call++) {
             oneCall();
         }
         same("digest()", () -> bench.digest(), () -> naive.digest());
     }
 
     private void same(String call, Check.Call asked, Check.Call due) {
+        made++;
         Check.due(run + call, Check.outcome(due), Check.outcome(asked));
     }
 
