@@ -15,6 +15,7 @@ final class SavedStatesTest {
         noState();
         eachMethodSaves();
         withoutAChange();
+        exactlyOneState();
         oneToFour();
         oneMore();
         manyMore();
@@ -77,6 +78,36 @@ final class SavedStatesTest {
             Check.due("method " + method + " saved one state even so", 3, x.undo());
             Check.due("method " + method + " is undone", before, graphs(x));
         }
+    }
+
+    private static void savesOne(String what, Check.NumberCall call, int... numbers) {
+        for (int number : numbers) {
+            HomBench x = new HomBench();
+            Check.read(x, 0, "2;v0=2;00=-1;01");
+            String before = graphs(x);
+            call.answer(x, number);
+            Check.due(what + " " + number + " saves one state", 1, x.undo());
+            Check.due(what + " " + number + " is undone", before, graphs(x));
+            Check.due("the only other state", 0, x.undo());
+        }
+    }
+
+    /** Whatever the arguments are. */
+    private static void exactlyOneState() {
+        savesOne("setSize", (x, size) -> x.setSize(0, size), 0, 1, 2, 3, 4, 5, 6, 7, 8);
+        savesOne("setVertex", (x, weight) -> x.setVertex(0, 0, weight), -3, -2, -1, 0, 1, 2, 3);
+        savesOne("setEdge", (x, weight) -> x.setEdge(0, 1, 0, weight), -2, -1, 0, 1, 2);
+        savesOne("a loop", (x, weight) -> x.setEdge(0, 0, 0, weight), -2, -1, 0, 1, 2);
+        savesOne("make", (x, family) -> x.make(0, family, 8), 0, 1, 2, 3, 4);
+        savesOne("make without vertices", (x, family) -> x.make(0, family, 0), 0, 1, 2, 3, 4);
+        savesOne("random", (x, seed) -> x.random(0, 5, seed, 50), 0, 1, 999999);
+        savesOne("random percent", (x, percent) -> x.random(0, 8, 1, percent), 0, 100);
+        savesOne("combine", (x, kind) -> x.combine(0, 0, 0, kind), 0, 1, 2);
+        savesOne("combine with nothing", (x, kind) -> x.combine(0, 0, 3, kind), 0, 1, 2);
+        savesOne("derive", (x, kind) -> x.derive(0, 0, kind, 0), 0, 1, 2, 3);
+        savesOne("induced", (x, set) -> x.derive(0, 0, 2, set), 0, 1, 2, 3);
+        savesOne("dismantle", (x, graph) -> x.dismantle(graph), 0, 1, 2, 3);
+        savesOne("parse", (x, graph) -> x.parse(graph), 0, 1, 2, 3);
     }
 
     /** A bench on which setSize was called so often, with the sizes 1, 2 and so on. */
