@@ -6,6 +6,7 @@ final class SymmetryTest {
         isomorphic();
         image();
         imageOfLargeGraphs();
+        imagesAmongAlikeOnes();
         compare();
         Check.finish("SymmetryTest");
     }
@@ -114,6 +115,23 @@ final class SymmetryTest {
         x.make(0, 1, 7);
         imagesAre(x, 0, 1, 0, 1, 0, 1, 0, 1, 2);
         imagesAre(x, 1, 0, -1, -1, -1, -1, -1, -1, -1);
+    }
+
+    private static void firstImagesAre(String from, String to, int... due) {
+        HomBench x = new HomBench();
+        Check.read(x, 0, from);
+        Check.read(x, 1, to);
+        imagesAre(x, 0, 1, due);
+    }
+
+    /** One image may stand for another only if both have the same neighbors and the same vertices may take them. */
+    private static void imagesAmongAlikeOnes() {
+        firstImagesAre("5;01;02;14;23;24;34", "5;01;02;14;23;24;34", 0, 1, 2, 3, 4);
+        firstImagesAre("5;01;03;14;23;24;34", "5;01;03;14;23;24;34", 0, 1, 2, 3, 4);
+        firstImagesAre("8;01;03;06;07;16;23;24;25;27;37;46;56;57", "3;01;02;12",
+                0, 1, 0, 1, 1, 1, 2, 2);
+        firstImagesAre("8;01;03;16;23;25;26;35;37;46;47;56;67", "7;01;25;26;56",
+                2, 5, 2, 6, 2, 5, 6, 5);
     }
 
     private static void compare() {
